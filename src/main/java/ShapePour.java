@@ -923,7 +923,9 @@ public final class ShapePour {
         void build(int tray, int sort, int n) {
             sorts[tray] = sort;
             size[tray] = n;
-            Arrays.fill(all, tray * MOST, tray * MOST + n, 0L);
+            for (int i = 0; i < n; i++) {
+                all[tray * MOST + i] = 0;
+            }
         }
 
         long get(int tray, int i) {
@@ -1033,21 +1035,21 @@ public final class ShapePour {
             if (top < 2) {
                 return top;
             }
-            stack[top - 2] = pair(op, stack[top - 2], stack[top - 1]);
-            return top - 1;
-        }
-
-        private static int pair(int op, int a, int b) {
+            int a = stack[top - 2];
+            int b = stack[top - 1];
+            long told;
             switch (op) {
-                case ADD: return within(a + b, -FAR, FAR);
-                case LESS: return within(a - b, -FAR, FAR);
-                case TIMES: return (int) Math.max(-FAR, Math.min(FAR, (long) a * b));
-                case IS: return a == b ? 1 : 0;
-                case BELOW: return a < b ? 1 : 0;
-                case ABOVE: return a > b ? 1 : 0;
-                case AND: return a & b;
-                default: return a | b;
+                case ADD: told = a + b; break;
+                case LESS: told = a - b; break;
+                case TIMES: told = (long) a * b; break;
+                case IS: told = a == b ? 1 : 0; break;
+                case BELOW: told = a < b ? 1 : 0; break;
+                case ABOVE: told = a > b ? 1 : 0; break;
+                case AND: told = a & b; break;
+                default: told = a | b; break;
             }
+            stack[top - 2] = (int) Math.max(-FAR, Math.min(FAR, told));
+            return top - 1;
         }
 
         static int within(int v, int least, int most) {
@@ -1383,7 +1385,7 @@ public final class ShapePour {
             Arrays.fill(wordLeft, NONE);
             slots.clear();
             placed = 0;
-            int w = shownFrom(0);
+            int w = 0;
             for (int line = 0; line < page.lines && w < page.words; line++) {
                 cut(line);
                 for (int i = slots.begin[line]; i < slots.total; i++) {
@@ -1392,19 +1394,13 @@ public final class ShapePour {
             }
         }
 
-        private int shownFrom(int from) {
-            int w = from;
-            while (w < page.words && state.hides(w)) {
-                w++;
-            }
-            return w;
-        }
-
         /** Puts words into a slot, from one on; answers the first that found no room in it. */
         private int fill(int slot, int from) {
             int at = slots.left[slot];
-            int w = from;
-            while (w < page.words) {
+            for (int w = from; w < page.words; w++) {
+                if (state.hides(w)) {
+                    continue;
+                }
                 int takes = page.wideOf(w, state.ink);
                 if (at + takes > slots.right[slot]) {
                     return w;
@@ -1414,9 +1410,8 @@ public final class ShapePour {
                 slots.words[slot]++;
                 placed++;
                 at += takes + 1;
-                w = shownFrom(w + 1);
             }
-            return w;
+            return page.words;
         }
 
         private void cut(int line) {
@@ -1645,13 +1640,15 @@ public final class ShapePour {
                     value = value * 10 + text[end] - '0';
                     end++;
                 }
+                if (end - start > MOST_DIGITS) {
+                    fail(1);
+                }
             } else {
                 token = text[start];
                 end = start + 1;
-            }
-            boolean isSign = token != AT_END && token != LETTERS && token != NUMBER;
-            if (token == NUMBER && end - start > MOST_DIGITS || isSign && SIGNS.indexOf((char) token) < 0) {
-                fail(1);
+                if (SIGNS.indexOf((char) (token & 255)) < 0) {
+                    fail(1);
+                }
             }
         }
 
