@@ -978,7 +978,7 @@ public final class ShapePour {
         static final int OF_SHAPE = -2;
         static final int OF_LINE = -3;
         static final int ADD = -5;
-        static final int LESS = -6;
+        static final int MINUS = -6;
         static final int TIMES = -7;
         static final int IS = -8;
         static final int BELOW = -9;
@@ -1040,7 +1040,7 @@ public final class ShapePour {
             long told;
             switch (op) {
                 case ADD: told = a + b; break;
-                case LESS: told = a - b; break;
+                case MINUS: told = a - b; break;
                 case TIMES: told = (long) a * b; break;
                 case IS: told = a == b ? 1 : 0; break;
                 case BELOW: told = a < b ? 1 : 0; break;
@@ -1158,8 +1158,9 @@ public final class ShapePour {
 
         /**
          * How far a shape at this y reaches in a line: a box to the right of its x, others to both
-         * sides. NONE: it isn't in that line (with y NONE: in none). The document rounds floats; here the same comes of
-         * whole numbers: a root or quotient that is not whole is a 200th or more away from one.
+         * sides. NONE: it isn't in that line (with y NONE: in none). The document rounds floats;
+         * here the same comes of whole numbers, as a root or quotient that is not whole is 1/201 or
+         * more away from any, far beyond what a float loses there.
          */
         int reach(int s, int y, int line) {
             if (y < 0) {
@@ -1779,7 +1780,7 @@ public final class ShapePour {
         private void sum(int depth) {
             term(depth);
             for (int i = 0; i < MOST_BYTES && (token == '+' || token == '-'); i++) {
-                int op = token == '+' ? Law.ADD : Law.LESS;
+                int op = token == '+' ? Law.ADD : Law.MINUS;
                 next();
                 term(depth);
                 law.add(op);

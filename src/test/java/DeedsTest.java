@@ -14,6 +14,7 @@ public final class DeedsTest {
         eldestAreForgotten();
         judge();
         why();
+        farDeeds();
         perform();
         days();
         CHECK.end();
@@ -125,6 +126,14 @@ public final class DeedsTest {
             due("17: can be " + v, x.judge(1, 1), 0);
             due("17: where " + v, x.judge(1, 0), -1);
         }
+    }
+
+    private static void farDeeds() {
+        ShapePour x = Check.on("page wide 20 lines 4 high 5 least 2 ink 3;" + "box 100 100 1 1;".repeat(6) + "words " + "a ".repeat(30) + ";");
+        Check.tray(x, 0, 129, 100, 1529, 1599, 10000, 20000, 15000 + 200, 25000 + 200);
+        due("18: the ends", x.perform(0), 8);
+        CHECK.row("18: the ends", new long[] {x.count(3), x.shape(5, 3), x.shape(0, 1), x.shape(0, 2), x.shape(5, 1), x.shape(5, 2)},
+            (1 << 29) + 1, -1, 0, 0, 200, 200);
     }
 
     private static void perform() {

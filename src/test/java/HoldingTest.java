@@ -120,6 +120,11 @@ public final class HoldingTest {
         due("38: circles", x.drawer(1, 9), 0);
         CHECK.row("39: places", new long[] {x.keep(9, 1), x.keep(-1, 1), x.keep(9, 0), x.keep(0, 0), x.keep(0, 2)}, -7, -7, -7, -8, -8);
         CHECK.row("39: kept", new long[] {x.keep(8, 1), x.kept(8, 0), x.kept(8, 1), x.kept(7, 0)}, 0, 5, 6, -5);
+        x.drawer(0, 1);
+        x.move(0, 0, -1);
+        x.move(0, 1, -2);
+        CHECK.row("40: at 0", new long[] {x.keep(0, 0), x.kept(0, 0), x.kept(0, 1)}, 0, 0, 0);
+        x.drawer(1, 9);
         due("39: in its place", x.keep(8, 3), 0);
         CHECK.row("40: another", new long[] {x.kept(8, 0), x.kept(8, 1), x.kept(9, 0), x.kept(-1, 0), x.kept(9, 2)}, 12, 13, -7, -7, -2);
         x.move(3, 1, 7);

@@ -85,6 +85,19 @@ public final class PageTest {
         }
         due("3: the first n", x.page(AT), 1);
         due("3: the rest is gone", x.count(7), 0);
+        cut("page wide 10", 11, 3, 10);
+        cut("page wide 1000", 12, 2, 12);
+        cut("page", 3, 2, 0);
+        cut(HEAD + "words abcdefghijklm", AT + 18, 2, AT + 18);
+    }
+
+    /** The text ends behind n bytes, whatever follows on the tape. */
+    private static void cut(String text, int n, int kind, int place) {
+        ShapePour x = new ShapePour();
+        for (int[] f : Texts.fives(text)) {
+            x.feed(f[0], f[1], f[2], f[3], f[4]);
+        }
+        CHECK.row("3, 4: cut " + text, new long[] {x.page(n), x.fault(0), x.fault(1)}, -30 - kind, kind, place);
     }
 
     private static void pageKeepsAllWithFault() {
@@ -153,6 +166,10 @@ public final class PageTest {
         fault(HEAD + ";", 2, AT);
         fault(HEAD + "page", 2, AT);
         fault(HEAD + "wedges 0 0 1 1;", 2, AT);
+        fault(HEAD + "fox 0 0 1 1;", 2, AT);
+        fault(HEAD + "bax 0 0 1 1;", 2, AT);
+        fault(HEAD + "boxx 0 0 1 1;", 2, AT);
+        fault(HEAD + "bo 0 0 1 1;", 2, AT);
         fault(HEAD + "circle 0 0 1 1;", 2, AT + 13);
         fault(HEAD + "circle 0 0 0;", 3, AT + 11);
         fine(HEAD + "circle 200 400 100;wedge 200 400 100 200;box 200 400 200 200;", 4);

@@ -168,6 +168,8 @@ public final class SettingTest {
         ShapePour v = Check.on(page(20, 1, 5, 2) + "circle 9 0 5;words a;wide:16;");
         // Its span of 10 must begin at 16.
         due("31: most words", v.bestX(0), 21);
+        ShapePour w = Check.on(page(200, 1, 5, 2) + "box 9 0 5 5;words a;wide:200;");
+        due("31: as far as it can be", w.bestX(0), 200);
     }
 
     private static void costs() {

@@ -50,7 +50,27 @@ final class Texts {
         }
     }
 
+    /** Many lines, shapes and words, and all shapes tied: such pages often go on for many rounds. */
+    private static String dense(Random r) {
+        StringBuilder b = new StringBuilder();
+        put(b, r, "page", "wide", "" + (10 + r.nextInt(40)), "lines", "20", "high", "" + (1 + r.nextInt(10)), "least",
+            "" + (1 + r.nextInt(4)), "ink", "0", ";");
+        for (int s = 0; s < 6; s++) {
+            shape(b, r, 40, 50);
+            put(b, r, "tie", "" + s, "" + r.nextInt(30), ";");
+        }
+        put(b, r, "words");
+        for (int w = 0; w < 30; w++) {
+            put(b, r, "abcdefghijkl".substring(r.nextInt(12)));
+        }
+        put(b, r, ";");
+        return b.toString();
+    }
+
     static String faultless(Random r) {
+        if (r.nextInt(5) == 0) {
+            return dense(r);
+        }
         StringBuilder b = new StringBuilder();
         int wide = r.nextInt(5) == 0 ? 10 + r.nextInt(191) : 10 + r.nextInt(40);
         int lines = 1 + r.nextInt(r.nextBoolean() ? 20 : 6);
@@ -98,7 +118,7 @@ final class Texts {
     private static void shape(StringBuilder b, Random r, int wide, int deep) {
         String x = "" + r.nextInt(Math.min(201, wide + 10));
         String y = "" + r.nextInt(Math.min(401, deep + 5));
-        String a = "" + (1 + r.nextInt(r.nextInt(8) == 0 ? 100 : 12));
+        String a = "" + (1 + r.nextInt(r.nextInt(8) == 0 ? 100 : r.nextInt(3) == 0 ? 25 : 12));
         String h = "" + (1 + r.nextInt(r.nextInt(8) == 0 ? 200 : 12));
         switch (r.nextInt(3)) {
             case 0: put(b, r, "box", x, y, a, h, ";"); break;
