@@ -512,6 +512,12 @@ public final class HoldingBoundsTest {
         due("41: what stood behind is 0, too", x.judge(1, 0), 1);
         Check.tray(x, 2, 19);
         due("41: others stay", x.judge(2, 0), -1);
+        ShapePour y = Check.on("page wide 20 lines 2 high 5 least 1 ink 3;words a;");
+        for (int sort = 0; sort < 4; sort++) {
+            Check.tray(y, sort, 1);
+            // 0 is no word that is 1 to 200 wide; 1 is word 0.
+            row("41: 0, not 1", new long[] {y.inks(sort), y.numbers(sort, sort, 1), y.inks(sort), y.write(sort, 0, 1), y.inks(sort)}, 1023, 0, -3, 1, 1023);
+        }
     }
 
     /** write: -2: no such TRAY; -6; -7. */

@@ -19,6 +19,7 @@ public final class OutlineBoundsTest {
         productsAreKept();
         ifTellsOne();
         comparedWithEqualOnes();
+        comparedAndJoined();
         lawsKnowTheirNumbers();
         boxTouchesALine();
         boxFromXToX();
@@ -193,6 +194,35 @@ public final class OutlineBoundsTest {
         wide("if (0 - " + M + " - 999) > (0 - " + M + " - 1) then 1 else 2 end", 2);
     }
 
+    /** TRUTH: what each of = < > tells, joined by not, and, or */
+    private static void comparedAndJoined() {
+        String[] holds = {"1 = 1", "1 < 2", "2 > 1", "not 1 = 2", "not 2 < 1", "not 1 > 2", "[ 2 > 1 ]", "not not 2 > 1"};
+        String[] fails = {"1 = 2", "2 < 1", "1 > 2", "not 1 = 1", "not 1 < 2", "not 2 > 1", "[ 1 > 2 ]", "not not 1 > 2"};
+        for (String a : holds) {
+            wide("if " + a + " then 5 else 6 end", 5);
+            for (String b : holds) {
+                wide("if " + a + " and " + b + " then 5 else 6 end", 5);
+                wide("if " + a + " or " + b + " then 5 else 6 end", 5);
+                wide("if not [ " + a + " and " + b + " ] then 5 else 6 end", 6);
+                wide("if not [ " + a + " or " + b + " ] then 5 else 6 end", 6);
+            }
+            for (String b : fails) {
+                wide("if " + a + " and " + b + " then 5 else 6 end", 6);
+                wide("if " + b + " and " + a + " then 5 else 6 end", 6);
+                wide("if " + a + " or " + b + " then 5 else 6 end", 5);
+                wide("if " + b + " or " + a + " then 5 else 6 end", 5);
+            }
+        }
+        for (String a : fails) {
+            wide("if " + a + " then 5 else 6 end", 6);
+            for (String b : fails) {
+                wide("if " + a + " and " + b + " then 5 else 6 end", 6);
+                wide("if " + a + " or " + b + " then 5 else 6 end", 6);
+                wide("if not [ " + a + " or " + b + " ] then 5 else 6 end", 5);
+            }
+        }
+    }
+
     /** ink: the INK; size: how many letters; word: its number; first: its first letter (a 1, b 2 ..); shape, line: numbers */
     private static void lawsKnowTheirNumbers() {
         StringBuilder words = new StringBuilder("words");
@@ -210,6 +240,11 @@ public final class OutlineBoundsTest {
         for (int ink = 9; ink >= 0; ink--) {
             x.ink(ink);
             due("7: how wide now", x.word(0, 1), ink == 0 ? 1 : ink);
+        }
+        ShapePour g = on(200, 1, 1, 1, "box 50 0 1 1;gap:ink*2;");
+        for (int ink : new int[] {9, 8, 0, 1, 4, 3, 5, 9, 2, 7, 6}) {
+            g.ink(ink);
+            row("8: the gap now", new long[] {g.span(0, 0, 0), g.span(0, 0, 1), g.slot(0, 1, 0)}, 50 - 2 * ink, 51 + 2 * ink, 51 + 2 * ink);
         }
         ShapePour y = on(200, 20, 1, 1, "box 50 0 1 40;".repeat(6) + "gap:shape*2+ink;");
         ShapePour z = on(200, 20, 1, 1, "box 50 0 1 40;".repeat(6) + "gap:line;");

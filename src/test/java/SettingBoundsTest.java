@@ -31,6 +31,7 @@ public final class SettingBoundsTest {
         roundsOfTheSetting();
         clashBehindTheOneItComesBackTo();
         clashOfTiedOnes();
+        clashNoMore();
         leastWideFromTen();
         leastWideToTwoHundred();
         leastWideNone();
@@ -297,6 +298,18 @@ public final class SettingBoundsTest {
         row("29: it doesn't clash", new long[] {x.still(), x.clash()}, 0, 0);
         ShapePour y = on(10, 1, 1, "words aaaa;" + "box 200 0 1 1;".repeat(5) + "box 0 0 10 5;tie 5 0;");
         row("29: there or not", new long[] {y.still(), y.clash(), y.shape(5, 4)}, 1, 32, -1);
+    }
+
+    /** 0: it doesn't CLASH: nor does a page that is read when one clashed */
+    private static void clashNoMore() {
+        ShapePour x = new ShapePour();
+        for (int i = 0; i < 3; i++) {
+            Texts.page(x, "page wide 10 lines 2 high 5 least 1 ink 0;words aaaa;box 0 0 10 5;box 200 0 1 1;tie 0 0;tie 1 0;");
+            row("29: clashes", new long[] {x.rounds(), x.still(), x.clash()}, 2, 1, 3);
+            Texts.page(x, "page wide 10 lines 9 high 5 least 2 ink 0;box 0 5 10 5;box 0 5 10 5;tie 0 0;tie 1 1;words aaaaaaaaa bbbbbbbbb ccccccccc;");
+            // Word 1 lies in line 1, 3, 2, 2.
+            row("29: is still at 3", new long[] {x.rounds(), x.still(), x.clash()}, 3, 0, 0);
+        }
     }
 
     // ---- promise 30
