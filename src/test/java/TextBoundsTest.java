@@ -412,12 +412,12 @@ public final class TextBoundsTest {
         for (int i = 0; i < 12; i++) {
             // Four pages with all, four without, four with all.
             if (i / 4 == 1) {
-                due("3: bare", Texts.page(x, HEAD + "box 9 9 1 1;words abc;"), 3);
+                due("3: bare", Texts.page(x, "page wide 10 lines 1 high 1 least 1 ink 4;box 9 9 1 1;words abc;"), 3);
                 row("3: no laws, no ties, no more", new long[] {x.word(0, 1), x.span(0, 0, 0), x.shape(0, 3), x.shape(0, 4), x.count(4), x.count(0), x.count(1), x.count(2)},
-                    3, -99000001, -1, 9, 0, 1, 1, 0);
+                    3, -99000001, -1, 9, 0, 1, 1, 4);
                 row("3: no gap", new long[] {x.move(0, 1, -9), x.span(0, 0, 0), x.span(0, 0, 1)}, 0, 9, 10);
             } else {
-                due("3: all", Texts.page(x, "page wide 20 lines 2 high 5 least 3 ink 4;box 9 0 1 1;box 1 1 1 1;tie 0 0;tie 1 1;words a b;wide:5;gap:line+2;"), 8);
+                due("3: all", Texts.page(x, "page wide 20 lines 2 high 5 least 3 ink 4;box 9 0 1 1;box 1 1 1 1;tie 0 0;tie 1 1;words a b;wide:5;gap:2+line;"), 8);
                 row("3: all", new long[] {x.word(0, 1), x.span(0, 0, 0), x.shape(0, 3), x.shape(1, 3), x.count(4), x.count(0), x.count(1), x.count(2)},
                     5, 7, 0, 1, 3, 2, 2, 4);
                 x.hide(1);
