@@ -42,6 +42,7 @@ public final class DeedBoundsTest {
         codesOfMoves();
         otherCodes();
         codesCutToASort();
+        eachCode();
         performRefused();
         performTillOneCantBe();
         performNone();
@@ -451,6 +452,35 @@ public final class DeedBoundsTest {
             due("18: can't be", x.perform(1), 0);
         }
         due("16: nothing to undo", x.count(6), 0);
+    }
+
+    /** All numbers from below 0 to beyond 25999, on a page with three shapes, five words. */
+    private static void eachCode() {
+        int[] atX = {100, 200, 0};
+        int[] atY = {200, 400, 0};
+        ShapePour x = null;
+        for (int v = -1200; v <= 27200; v++) {
+            if (v % 100 == 0) {
+                x = Check.on(PAGE);
+                x.numbers(0, 3, 1);
+            }
+            int want = 1;
+            int rest = v % 1000 - 100;
+            if (v >= 10 && v <= 19 || v >= 100 && v <= 104) {
+                want = 0;
+            } else if (v >= 1000 && v < 1300 && (v % 100 < 30 || v % 100 == 99)) {
+                want = 0;
+            } else if (v >= 10000 && v < 13000 && rest <= 100) {
+                int to = atX[v / 1000 - 10] + rest;
+                want = to < 0 || to > 200 ? 2 : 0;
+            } else if (v >= 20000 && v < 23000 && rest <= 100) {
+                int to = atY[v / 1000 - 20] + rest;
+                want = to < 0 || to > 400 ? 2 : 0;
+            }
+            x.write(0, 0, v);
+            due("17: why not " + v, x.judge(0, 1), want);
+            due("17: where " + v, x.judge(0, 0), want == 0 ? -1 : 0);
+        }
     }
 
     /** numbers of 8 bits (sort 0), 16 (1), 32 (2), 64 (3): the deed is the number as it is there */
